@@ -372,11 +372,17 @@ public final class TreeFiles {
 
         /** There are 0s where no block is. */
         int byteAt(int place) {
-            return hasPlace(place) ? byteIn(now[place / LONG_BYTES], place) : 0;
+            if (place < 0 || place >= blocks * BLOCK_BYTES) {
+                return 0;
+            }
+            return (int) (now[place / LONG_BYTES] >>> (place % LONG_BYTES * 8)) & 255;
         }
 
         int committedByteAt(int place) {
-            return hasPlace(place) ? byteIn(committed[place / LONG_BYTES], place) : 0;
+            if (place < 0 || place >= blocks * BLOCK_BYTES) {
+                return 0;
+            }
+            return (int) (committed[place / LONG_BYTES] >>> (place % LONG_BYTES * 8)) & 255;
         }
 
         int pairAt(int place) {
@@ -384,7 +390,7 @@ public final class TreeFiles {
         }
 
         void setByte(int place, int value) {
-            if (hasPlace(place)) {
+            if (place >= 0 && place < blocks * BLOCK_BYTES) {
                 touch(place / BLOCK_BYTES);
                 int shift = place % LONG_BYTES * 8;
                 long others = now[place / LONG_BYTES] & ~(255L << shift);
@@ -547,16 +553,8 @@ public final class TreeFiles {
             return block >= 0 && block < blocks;
         }
 
-        private boolean hasPlace(int place) {
-            return place >= 0 && place < blocks * BLOCK_BYTES;
-        }
-
         private static int mapLongOf(int block) {
             return MAP_BLOCK * BLOCK_LONGS + block / LONG_BITS;
-        }
-
-        private static int byteIn(long bytes, int place) {
-            return (int) (bytes >>> (place % LONG_BYTES * 8)) & 255;
         }
 
         private static void copyBlock(long[] from, long[] to, int block) {
@@ -645,8 +643,9 @@ public final class TreeFiles {
             for (int n = held; n > needed; n--) {
                 giveBlockBack(inode);
             }
-            if (newSize < size) {
-                clearLastBlockFrom(inode, newSize);
+            int end = Math.min(size, needed * BLOCK_BYTES);
+            for (int offset = newSize; offset < end; offset++) {
+                disk.setByte(placeOf(inode, offset), 0);
             }
             disk.setPair(inodePlace(inode) + SIZE_PLACE, newSize);
             return true;
@@ -699,13 +698,6 @@ public final class TreeFiles {
             if (length == 1) {
                 disk.setPair(extentPlace(inode, last), 0);
                 disk.setByte(inodePlace(inode) + EXTENTS_PLACE, last);
-            }
-        }
-
-        private void clearLastBlockFrom(int inode, int size) {
-            int end = blocksFor(size) * BLOCK_BYTES;
-            for (int offset = size; offset < end; offset++) {
-                disk.setByte(placeOf(inode, offset), 0);
             }
         }
 
@@ -799,19 +791,13 @@ public final class TreeFiles {
 
         private void fillParents() {
             for (int directory = 0; directory < INODES; directory++) {
-                if (inodes.kind(directory) == KIND_DIRECTORY) {
-                    fillParentsIn(directory);
-                }
-            }
-        }
-
-        private void fillParentsIn(int directory) {
-            int size = inodes.size(directory);
-            for (int offset = 0; offset < size; offset += ENTRY_BYTES) {
-                int inode = inodeOf(inodes.placeOf(directory, offset));
-                // An empty entry tells inode 0, the root, which is in no directory.
-                if (inode > ROOT && inode < INODES) {
-                    parents[inode] = directory;
+                int size = inodes.kind(directory) == KIND_DIRECTORY ? inodes.size(directory) : 0;
+                for (int offset = 0; offset < size; offset += ENTRY_BYTES) {
+                    int inode = inodeOf(inodes.placeOf(directory, offset));
+                    // An empty entry tells inode 0, the root, which is in no directory.
+                    if (inode > ROOT && inode < INODES) {
+                        parents[inode] = directory;
+                    }
                 }
             }
         }
