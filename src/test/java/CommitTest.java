@@ -10,6 +10,7 @@ public final class CommitTest {
         freeBlocksHaveCommittedBytes();
         takenBlocksHaveZeros();
         promise14Rises();
+        promise14Map();
         promise14Wrong();
         backToCommittedIsNotChanged();
         operationCommitsFirst();
@@ -108,6 +109,19 @@ public final class CommitTest {
         CHECK.due("changed blocks", x.look(3), due.length);
         for (int i = 0; i < due.length; i++) {
             CHECK.due("changed(" + i + ")", x.changed(i), due[i]);
+        }
+    }
+
+    private static void promise14Map() {
+        for (int block = 511; block <= 512; block++) {
+            TreeFiles x = new TreeFiles(600);
+            int size = (block - 60) * 64;
+            int inode = Check.file(x, 1, size);
+            x.commit();
+            x.cut(inode, size + 1);
+            CHECK.due("the inode", x.changed(0), 25);
+            CHECK.due("the map's block for " + block, x.changed(1), block == 511 ? 57 : 58);
+            CHECK.due("no other", x.look(3), 2);
         }
     }
 

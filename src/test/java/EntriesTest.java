@@ -13,6 +13,7 @@ public final class EntriesTest {
         promise8Replaces();
         promise8Faults();
         promise8IntoItself();
+        promise8IntoWhatWasWithin();
         promise8NoBlock();
         promise9Removes();
         promise9Faults();
@@ -218,6 +219,16 @@ public final class EntriesTest {
         CHECK.due("from within to beside", x.move(20, 5, 41, 5), 0);
         CHECK.due("the one above into what was in it", x.move(19, 5, 40, 9), 0);
         CHECK.due("and that into it no more", x.move(41, 5, 20, 9), -7);
+    }
+
+    private static void promise8IntoWhatWasWithin() {
+        TreeFiles x = new TreeFiles(96);
+        x.make(0, 1, true);
+        x.make(0, 2, true);
+        CHECK.due("1 into 2", x.move(0, 1, 2, 1), 0);
+        CHECK.due("2 into 1, which is within it", x.move(0, 2, 1, 2), -7);
+        CHECK.due("1 back into the root", x.move(2, 1, 0, 1), 0);
+        CHECK.due("2 into 1, which was within it", x.move(0, 2, 1, 2), 0);
     }
 
     private static void promise8NoBlock() {
