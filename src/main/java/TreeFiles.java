@@ -90,12 +90,8 @@ public final class TreeFiles {
     public int find(int directory, int name) throws IllegalArgumentException {
         checkInode(directory);
         checkName(name);
-        int fault = kindFault(directory, KIND_DIRECTORY);
-        if (fault < 0) {
-            return fault;
-        }
-        int entry = directories.entryNamed(directory, name);
-        return entry == NONE ? NOT_THERE : directories.inodeOf(entry);
+        int entry = entryOrFault(directory, name);
+        return entry < 0 ? entry : directories.inodeOf(entry);
     }
 
     public int write(int inode, int offset) throws IllegalArgumentException {
@@ -157,15 +153,11 @@ public final class TreeFiles {
         checkName(name);
         checkInode(toDirectory);
         checkName(toName);
-        int fault = kindFault(directory, KIND_DIRECTORY);
-        if (fault < 0) {
-            return fault;
+        int entry = entryOrFault(directory, name);
+        if (entry < 0) {
+            return entry;
         }
-        int entry = directories.entryNamed(directory, name);
-        if (entry == NONE) {
-            return NOT_THERE;
-        }
-        fault = kindFault(toDirectory, KIND_DIRECTORY);
+        int fault = kindFault(toDirectory, KIND_DIRECTORY);
         if (fault < 0) {
             return fault;
         }
@@ -193,13 +185,9 @@ public final class TreeFiles {
     public int remove(int directory, int name) throws IllegalArgumentException {
         checkInode(directory);
         checkName(name);
-        int fault = kindFault(directory, KIND_DIRECTORY);
-        if (fault < 0) {
-            return fault;
-        }
-        int entry = directories.entryNamed(directory, name);
-        if (entry == NONE) {
-            return NOT_THERE;
+        int entry = entryOrFault(directory, name);
+        if (entry < 0) {
+            return entry;
         }
         int inode = directories.inodeOf(entry);
         if (hasEntries(inode)) {
@@ -299,7 +287,17 @@ public final class TreeFiles {
         return found == kind ? 0 : OTHER_KIND;
     }
 
-    /** The answer for an inode that should come into a directory, in the place of toEntry if there is that: 0 if it may. */
+    /** An entry's place, which is never below 0; otherwise the answer for it. */
+    private int entryOrFault(int directory, int name) {
+        int fault = kindFault(directory, KIND_DIRECTORY);
+        if (fault < 0) {
+            return fault;
+        }
+        int entry = directories.entryNamed(directory, name);
+        return entry == NONE ? NOT_THERE : entry;
+    }
+
+    /** The answer for an inode that should come into a directory, onto toEntry if there is that: 0 if it may. */
     private int moveFault(int inode, int toDirectory, int toEntry) {
         boolean movesDirectory = inodes.kind(inode) == KIND_DIRECTORY;
         if (toEntry != NONE) {

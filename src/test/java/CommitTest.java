@@ -59,7 +59,8 @@ public final class CommitTest {
         CHECK.due("drop again", x.drop(), 0);
     }
 
-    private static void freeBlocksHaveCommittedBytes() {
+    /** File 1, whose one byte is committed as 5 and now 6, in block 60. */
+    private static TreeFiles fiveThenSix() {
         TreeFiles x = new TreeFiles(96);
         x.make(0, 1, false);
         x.feed(1, 5);
@@ -67,6 +68,11 @@ public final class CommitTest {
         x.commit();
         x.feed(1, 6);
         x.write(1, 0);
+        return x;
+    }
+
+    private static void freeBlocksHaveCommittedBytes() {
+        TreeFiles x = fiveThenSix();
         CHECK.due("before it is given back", x.at(60, 0, false), 6);
         x.cut(1, 0);
         CHECK.due("given back", x.at(60, 0, false), 5);
@@ -139,13 +145,7 @@ public final class CommitTest {
     }
 
     private static void backToCommittedIsNotChanged() {
-        TreeFiles x = new TreeFiles(96);
-        x.make(0, 1, false);
-        x.feed(1, 5);
-        x.write(1, 0);
-        x.commit();
-        x.feed(1, 6);
-        x.write(1, 0);
+        TreeFiles x = fiveThenSix();
         CHECK.due("another byte", x.look(3), 1);
         x.feed(1, 5);
         x.write(1, 0);
