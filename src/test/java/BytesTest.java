@@ -19,7 +19,7 @@ public final class BytesTest {
     }
 
     private static void promise5Writes() {
-        TreeFiles x = new TreeFiles(96);
+        Tree x = new Tree(96);
         x.make(0, 1, false);
         CHECK.due("write nothing", x.write(1, 0), 0);
         CHECK.due("it has no block", x.node(1, 2), 0);
@@ -43,7 +43,7 @@ public final class BytesTest {
     }
 
     private static void promise5Faults() {
-        TreeFiles x = new TreeFiles(96);
+        Tree x = new Tree(96);
         x.make(0, 1, false);
         x.cut(1, 10);
         x.commit();
@@ -66,7 +66,7 @@ public final class BytesTest {
     }
 
     private static void promise5NoBlock() {
-        TreeFiles x = new TreeFiles(96);
+        Tree x = new Tree(96);
         Check.file(x, 1, 34 * 64);
         x.make(0, 2, false);
         Check.feed(x, 60, 1);
@@ -86,7 +86,7 @@ public final class BytesTest {
     }
 
     private static void promise6Cuts() {
-        TreeFiles x = new TreeFiles(96);
+        Tree x = new Tree(96);
         x.make(0, 1, false);
         CHECK.due("grow", x.cut(1, 64), 64);
         CHECK.due("64 bytes are one block", x.node(1, 4), 1);
@@ -114,7 +114,7 @@ public final class BytesTest {
     }
 
     private static void promise6Bounds() {
-        TreeFiles x = new TreeFiles(96);
+        Tree x = new Tree(96);
         x.make(0, 1, false);
         CHECK.due("1025 above", x.cut(1, 1025), -8);
         CHECK.due("1024 above", x.cut(1, 1024), 1024);
@@ -137,7 +137,7 @@ public final class BytesTest {
     }
 
     private static void promise6NinthExtent() {
-        TreeFiles x = new TreeFiles(96);
+        Tree x = new Tree(96);
         x.make(0, 1, false);
         x.make(0, 2, false);
         for (int i = 1; i <= 8; i++) {
@@ -160,7 +160,7 @@ public final class BytesTest {
     }
 
     private static void promise6FullExtent() {
-        TreeFiles x = new TreeFiles(768);
+        Tree x = new Tree(768);
         int inode = Check.file(x, 1, 255 * 64);
         CHECK.due("one extent", x.node(inode, 2), 1);
         CHECK.due("of 255", x.node(inode, 4), 255);
@@ -174,7 +174,7 @@ public final class BytesTest {
     }
 
     private static void promise6ToTheLastBlock() {
-        TreeFiles x = new TreeFiles(768);
+        Tree x = new Tree(768);
         int inode = Check.file(x, 1, 708 * 64);
         CHECK.due("all blocks are taken", x.look(1), 0);
         CHECK.due("size", x.node(inode, 1), 708 * 64);
@@ -191,7 +191,7 @@ public final class BytesTest {
     }
 
     private static void promise7Reads() {
-        TreeFiles x = new TreeFiles(96);
+        Tree x = new Tree(96);
         x.make(0, 1, false);
         x.make(0, 2, false);
         for (int i = 0; i < 3; i++) {
@@ -211,7 +211,7 @@ public final class BytesTest {
     }
 
     private static void promise7Wrong() {
-        TreeFiles x = new TreeFiles(96);
+        Tree x = new Tree(96);
         x.make(0, 1, false);
         x.cut(1, 10);
         x.make(0, 2, true);

@@ -20,7 +20,7 @@ public final class CommitTest {
     }
 
     private static void promise10Commits() {
-        TreeFiles x = new TreeFiles(96);
+        Tree x = new Tree(96);
         CHECK.due("commit nothing", x.commit(), 0);
         x.make(0, 1, false);
         Check.feed(x, 1, 77);
@@ -36,7 +36,7 @@ public final class CommitTest {
     }
 
     private static void promise11Drops() {
-        TreeFiles x = new TreeFiles(96);
+        Tree x = new Tree(96);
         x.make(0, 1, false);
         Check.feed(x, 100, 1);
         x.write(1, 0);
@@ -60,8 +60,8 @@ public final class CommitTest {
     }
 
     /** File 1, whose one byte is committed as 5 and now 6, in block 60. */
-    private static TreeFiles fiveThenSix() {
-        TreeFiles x = new TreeFiles(96);
+    private static Tree fiveThenSix() {
+        Tree x = new Tree(96);
         x.make(0, 1, false);
         x.feed(1, 5);
         x.write(1, 0);
@@ -72,7 +72,7 @@ public final class CommitTest {
     }
 
     private static void freeBlocksHaveCommittedBytes() {
-        TreeFiles x = fiveThenSix();
+        Tree x = fiveThenSix();
         CHECK.due("before it is given back", x.at(60, 0, false), 6);
         x.cut(1, 0);
         CHECK.due("given back", x.at(60, 0, false), 5);
@@ -82,7 +82,7 @@ public final class CommitTest {
     }
 
     private static void takenBlocksHaveZeros() {
-        TreeFiles x = new TreeFiles(96);
+        Tree x = new Tree(96);
         x.make(0, 1, false);
         x.feed(8, -1);
         x.write(1, 0);
@@ -101,7 +101,7 @@ public final class CommitTest {
     }
 
     private static void promise14Rises() {
-        TreeFiles x = new TreeFiles(768);
+        Tree x = new Tree(768);
         int inode = Check.file(x, 1, 500 * 64);
         x.make(0, 2, false);
         x.make(0, 3, false);
@@ -120,7 +120,7 @@ public final class CommitTest {
 
     private static void promise14Map() {
         for (int block = 511; block <= 512; block++) {
-            TreeFiles x = new TreeFiles(600);
+            Tree x = new Tree(600);
             int size = (block - 60) * 64;
             int inode = Check.file(x, 1, size);
             x.commit();
@@ -132,7 +132,7 @@ public final class CommitTest {
     }
 
     private static void promise14Wrong() {
-        TreeFiles x = new TreeFiles(96);
+        Tree x = new Tree(96);
         Class<NoSuchElementException> none = NoSuchElementException.class;
         CHECK.dueThrow("changed(0) of a new one", none, () -> x.changed(0));
         x.make(0, 1, false);
@@ -145,7 +145,7 @@ public final class CommitTest {
     }
 
     private static void backToCommittedIsNotChanged() {
-        TreeFiles x = fiveThenSix();
+        Tree x = fiveThenSix();
         CHECK.due("another byte", x.look(3), 1);
         x.feed(1, 5);
         x.write(1, 0);
@@ -156,8 +156,8 @@ public final class CommitTest {
     }
 
     /** File 1, committed, with blocks 60 .. 87; then so many of them are changed. */
-    private static TreeFiles changedBlocks(int count) {
-        TreeFiles x = new TreeFiles(96);
+    private static Tree changedBlocks(int count) {
+        Tree x = new Tree(96);
         Check.file(x, 1, 28 * 64);
         x.commit();
         for (int i = 0; i < count; i++) {
@@ -170,7 +170,7 @@ public final class CommitTest {
     }
 
     private static void operationCommitsFirst() {
-        TreeFiles x = changedBlocks(24);
+        Tree x = changedBlocks(24);
         x.feed(1, 40);
         CHECK.due("one more", x.write(1, 64 * 24), 28 * 64);
         CHECK.due("commits first", x.look(4), 1);
@@ -183,7 +183,7 @@ public final class CommitTest {
         CHECK.due("what was before stays", x.read(1, 64 * 23), 24);
         CHECK.due("the count stays", x.look(4), 1);
 
-        TreeFiles y = changedBlocks(24);
+        Tree y = changedBlocks(24);
         y.feed(1, 99);
         y.write(1, 5);
         CHECK.due("24 are not too many", y.look(3) + 100 * y.look(4), 24);
@@ -196,7 +196,7 @@ public final class CommitTest {
     }
 
     private static void operationCommitsWhatItGivesBack() {
-        TreeFiles x = new TreeFiles(96);
+        Tree x = new Tree(96);
         x.make(0, 1, true);
         x.make(0, 2, false);
         x.make(0, 3, false);
@@ -221,7 +221,7 @@ public final class CommitTest {
     }
 
     private static void failedOperationDoesNotCommitFirst() {
-        TreeFiles x = changedBlocks(24);
+        Tree x = changedBlocks(24);
         CHECK.due("blocks free", x.look(1), 8);
         CHECK.due("too large", x.cut(1, 28 * 64 + 8 * 64 + 1), -4);
         CHECK.due("no commit first", x.look(3) + 100 * x.look(4), 24);

@@ -22,7 +22,7 @@ public final class EntriesTest {
     }
 
     private static void promise3Answers() {
-        TreeFiles x = new TreeFiles(96);
+        Tree x = new Tree(96);
         CHECK.due("make a file", x.make(0, 65535, false), 1);
         CHECK.due("make a directory", x.make(0, 1, true), 2);
         CHECK.due("make in it", x.make(2, 65535, true), 3);
@@ -39,7 +39,7 @@ public final class EntriesTest {
     }
 
     private static void promise3Places() {
-        TreeFiles x = new TreeFiles(96);
+        Tree x = new Tree(96);
         for (int i = 1; i <= 16; i++) {
             x.make(0, 0x0100 + i, false);
         }
@@ -59,7 +59,7 @@ public final class EntriesTest {
     }
 
     private static void promise3NoInode() {
-        TreeFiles x = new TreeFiles(96);
+        Tree x = new Tree(96);
         for (int i = 1; i <= 63; i++) {
             CHECK.due("make " + i, x.make(0, i, i % 2 == 0), i);
         }
@@ -79,7 +79,7 @@ public final class EntriesTest {
     }
 
     private static void promise3NoBlock() {
-        TreeFiles x = full();
+        Tree x = full();
         int changedBlocks = x.look(3);
         CHECK.due("no block for an entry", x.make(2, 5, false), -4);
         CHECK.due("no inode was used", x.look(2), 61);
@@ -89,8 +89,8 @@ public final class EntriesTest {
     }
 
     /** The root with file 1 of name 1 and directory 2 of name 2, and no block free. */
-    private static TreeFiles full() {
-        TreeFiles x = new TreeFiles(96);
+    private static Tree full() {
+        Tree x = new Tree(96);
         Check.file(x, 1, 36 * 64);
         x.make(0, 2, true);
         CHECK.due("a full disk", x.look(1), 0);
@@ -98,7 +98,7 @@ public final class EntriesTest {
     }
 
     private static void promise4Answers() {
-        TreeFiles x = new TreeFiles(96);
+        Tree x = new Tree(96);
         CHECK.due("find in an empty root", x.find(0, 1), -1);
         for (int i = 1; i <= 40; i++) {
             x.make(0, 1000 * i, i == 40);
@@ -117,7 +117,7 @@ public final class EntriesTest {
     }
 
     private static void promise8Moves() {
-        TreeFiles x = new TreeFiles(96);
+        Tree x = new Tree(96);
         x.make(0, 1, false);
         x.make(0, 2, true);
         x.make(0, 3, true);
@@ -137,7 +137,7 @@ public final class EntriesTest {
     }
 
     private static void promise8Renames() {
-        TreeFiles x = new TreeFiles(96);
+        Tree x = new Tree(96);
         for (int i = 1; i <= 16; i++) {
             x.make(0, i, false);
         }
@@ -154,7 +154,7 @@ public final class EntriesTest {
     }
 
     private static void promise8Replaces() {
-        TreeFiles x = new TreeFiles(96);
+        Tree x = new Tree(96);
         x.make(0, 1, false);
         x.make(0, 2, false);
         x.cut(1, 100);
@@ -177,7 +177,7 @@ public final class EntriesTest {
         CHECK.due("all bytes of a free inode are 0", inodeBytes(x, 3), 0);
     }
 
-    private static int inodeBytes(TreeFiles x, int inode) {
+    private static int inodeBytes(Tree x, int inode) {
         int sum = 0;
         for (int k = 0; k < 32; k++) {
             sum += x.at(25 + inode / 2, 32 * (inode % 2) + k, false);
@@ -186,7 +186,7 @@ public final class EntriesTest {
     }
 
     private static void promise8Faults() {
-        TreeFiles x = new TreeFiles(96);
+        Tree x = new Tree(96);
         x.make(0, 1, false);
         x.make(0, 2, true);
         x.make(0, 3, true);
@@ -206,7 +206,7 @@ public final class EntriesTest {
     }
 
     private static void promise8IntoItself() {
-        TreeFiles x = new TreeFiles(768);
+        Tree x = new Tree(768);
         for (int i = 0; i < 40; i++) {
             CHECK.due("a deep tree " + i, x.make(i, 5, true), i + 1);
         }
@@ -222,7 +222,7 @@ public final class EntriesTest {
     }
 
     private static void promise8IntoWhatWasWithin() {
-        TreeFiles x = new TreeFiles(96);
+        Tree x = new Tree(96);
         x.make(0, 1, true);
         x.make(0, 2, true);
         CHECK.due("1 into 2", x.move(0, 1, 2, 1), 0);
@@ -232,7 +232,7 @@ public final class EntriesTest {
     }
 
     private static void promise8NoBlock() {
-        TreeFiles x = full();
+        Tree x = full();
         x.commit();
         CHECK.due("no block for the new entry", x.move(0, 1, 2, 5), -4);
         CHECK.due("the first entry is there", x.find(0, 1), 1);
@@ -242,7 +242,7 @@ public final class EntriesTest {
     }
 
     private static void promise9Removes() {
-        TreeFiles x = new TreeFiles(96);
+        Tree x = new Tree(96);
         Check.file(x, 1, 300);
         x.make(0, 2, true);
         x.make(2, 3, false);
@@ -263,7 +263,7 @@ public final class EntriesTest {
     }
 
     private static void promise9Faults() {
-        TreeFiles x = new TreeFiles(96);
+        Tree x = new Tree(96);
         x.make(0, 1, false);
         x.commit();
         CHECK.due("remove in a free inode", x.remove(2, 1), -1);
@@ -275,7 +275,7 @@ public final class EntriesTest {
     }
 
     private static void wrongArguments() {
-        TreeFiles x = new TreeFiles(96);
+        Tree x = new Tree(96);
         x.make(0, 1, true);
         Class<IllegalArgumentException> wrong = IllegalArgumentException.class;
         for (int inode : new int[] {-1, 64, 256, Integer.MAX_VALUE, Integer.MIN_VALUE}) {

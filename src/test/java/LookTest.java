@@ -15,8 +15,8 @@ public final class LookTest {
     }
 
     /** File 1 with blocks 60, 61 and 63; file 2 with block 62. */
-    private static TreeFiles twoFiles() {
-        TreeFiles x = new TreeFiles(96);
+    private static Tree twoFiles() {
+        Tree x = new Tree(96);
         x.make(0, 1, false);
         x.make(0, 2, false);
         x.cut(1, 128);
@@ -26,7 +26,7 @@ public final class LookTest {
     }
 
     private static void promise12Tells() {
-        TreeFiles x = twoFiles();
+        Tree x = twoFiles();
         int[] due = {1, 150, 2, 60, 2, 63, 1};
         for (int what = 0; what < due.length; what++) {
             CHECK.due("node(1, " + what + ")", x.node(1, what), due[what]);
@@ -42,7 +42,7 @@ public final class LookTest {
     }
 
     private static void promise12Wrong() {
-        TreeFiles x = twoFiles();
+        Tree x = twoFiles();
         Class<NoSuchElementException> none = NoSuchElementException.class;
         for (int what : new int[] {-1, 7, 8, 18, 19, Integer.MAX_VALUE, Integer.MIN_VALUE}) {
             CHECK.dueThrow("node(1, " + what + ")", none, () -> x.node(1, what));
@@ -54,7 +54,7 @@ public final class LookTest {
     }
 
     private static void promise13Tells() {
-        TreeFiles x = twoFiles();
+        Tree x = twoFiles();
         CHECK.due("the map now", x.at(57, 7, false), 0xff);
         CHECK.due("the map as committed", x.at(57, 7, true), 7);
         x.feed(8, 0xf0e0d0c0b0a09080L);
@@ -69,7 +69,7 @@ public final class LookTest {
     }
 
     private static void promise13Wrong() {
-        TreeFiles x = new TreeFiles(100);
+        Tree x = new Tree(100);
         Class<IllegalArgumentException> wrong = IllegalArgumentException.class;
         for (int bad : new int[] {-1, 100, 768, Integer.MAX_VALUE, Integer.MIN_VALUE}) {
             CHECK.dueThrow("at(" + bad + ", 0, false)", wrong, () -> x.at(bad, 0, false));
@@ -83,7 +83,7 @@ public final class LookTest {
     }
 
     private static void promise15Tells() {
-        TreeFiles x = new TreeFiles(100);
+        Tree x = new Tree(100);
         x.make(0, 1, true);
         x.make(1, 1, true);
         x.make(2, 1, false);
@@ -96,7 +96,7 @@ public final class LookTest {
     }
 
     private static void promise15Wrong() {
-        TreeFiles x = new TreeFiles(96);
+        Tree x = new Tree(96);
         for (int what : new int[] {-1, 7, Integer.MAX_VALUE, Integer.MIN_VALUE}) {
             CHECK.dueThrow("look(" + what + ")", NoSuchElementException.class, () -> x.look(what));
         }

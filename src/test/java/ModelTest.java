@@ -1,39 +1,52 @@
+import java.util.ArrayList;
 import java.util.List;
 import java.util.NoSuchElementException;
 import java.util.Random;
 import java.util.TreeMap;
+import java.util.function.Consumer;
 
 /**
  * Long runs of calls on TreeFiles and on the Model, with the same answers due; the seeds are fixed.
- * The looks at all bytes between them go beyond the 512 calls that the document promises: nothing here counts calls.
+ * Between them the run so far is done again on other objects, so that all of it can be looked at.
  */
 public final class ModelTest {
-    private static final int CALLS = 512;
+    private static final int RUNS = 420;
+    /** The most that a step can use: a full tape, and its write. */
+    private static final int STEP_CALLS = 65;
     private static final int[] SIZES = {96, 97, 110, 160, 600, 768, 0};
+    /** Of a hundred steps those that make, find, write, cut, move, remove, commit, drop and read: kinds of runs. */
+    private static final int[][] SHARES = {
+        {20, 4, 26, 20, 12, 10, 3, 2, 3}, {70, 2, 5, 7, 7, 3, 2, 1, 3}, {10, 2, 12, 60, 4, 3, 2, 1, 6},
+    };
 
     private static final Check CHECK = new Check();
     /** How often each operation gave each kind of answer: the runs are worth nothing if they never come there. */
     private static final TreeMap<String, Integer> SEEN = new TreeMap<>();
 
     private final Random random;
-    private final TreeFiles x;
+    private final int blocks;
+    private final Tree x;
     private final Model model;
+    /** The calls so far that can change something. */
+    private final List<Consumer<Tree>> done = new ArrayList<>();
     private final int inodes;
     private final int names;
+    private final int[] shares;
     private final String run;
 
     private ModelTest(int seed) {
         random = new Random(seed);
-        int blocks = SIZES[seed % SIZES.length];
-        x = new TreeFiles(blocks);
+        blocks = SIZES[seed % SIZES.length];
+        x = new Tree(blocks);
         model = new Model(blocks);
         inodes = new int[] {4, 8, 20, 64}[random.nextInt(4)];
         names = new int[] {3, 6, 40}[random.nextInt(3)];
+        shares = SHARES[random.nextInt(SHARES.length)];
         run = "run " + seed + ": ";
     }
 
     public static void main(String[] args) {
-        for (int seed = 0; seed < 140 && CHECK.wrong() == 0; seed++) {
+        for (int seed = 0; seed < RUNS && CHECK.wrong() == 0; seed++) {
             new ModelTest(seed).go();
         }
         String[] due = {
@@ -51,14 +64,15 @@ public final class ModelTest {
     }
 
     private void go() {
-        for (int call = 0; call < CALLS && CHECK.wrong() == 0; call++) {
-            step(run + "call " + call + " ");
-            compareLooks(run + "after call " + call + " ");
-            if (call % 32 == 31) {
-                compareBytes(run + "after call " + call + " ");
-                compareNodes(run + "after call " + call + " ");
+        for (int step = 1; x.callsLeft() >= STEP_CALLS && CHECK.wrong() == 0; step++) {
+            String at = run + "step " + step + " ";
+            step(at);
+            compareLook(at);
+            if (step % 16 == 0) {
+                compare(at, 5);
             }
         }
+        compare(run + "at its end ", model.limit <= 97 ? model.limit : 20);
     }
 
     private int inode() {
@@ -89,77 +103,107 @@ public final class ModelTest {
         CHECK.due(told, got, want);
     }
 
+    private int kindOfStep() {
+        int left = random.nextInt(100);
+        int kind = 0;
+        while (left >= shares[kind]) {
+            left -= shares[kind];
+            kind++;
+        }
+        return kind;
+    }
+
     private void step(String at) {
         int first = model.commitsFirst;
-        int choice = random.nextInt(100);
-        if (choice < 20) {
-            makeOne(at);
-        } else if (choice < 24) {
-            int d = directory();
-            int n = name();
-            due(at + "find(" + d + ", " + n + ")", "find", x.find(d, n), model.find(d, n));
-        } else if (choice < 50) {
-            writeOne(at);
-        } else if (choice < 70) {
-            cutOne(at);
-        } else if (choice < 82) {
-            int d = directory();
-            int n = name();
-            int e = directory();
-            int m = name();
-            String told = at + "move(" + d + ", " + n + ", " + e + ", " + m + ")";
-            due(told, "move", x.move(d, n, e, m), model.move(d, n, e, m));
-        } else if (choice < 92) {
-            int d = directory();
-            int n = name();
-            due(at + "remove(" + d + ", " + n + ")", "remove", x.remove(d, n), model.remove(d, n));
-        } else if (choice < 95) {
-            CHECK.due(at + "commit()", x.commit(), model.commit());
-        } else if (choice < 97) {
-            CHECK.due(at + "drop()", x.drop(), model.drop());
-        } else {
-            readOne(at);
+        switch (kindOfStep()) {
+            case 0 -> makeOne(at);
+            case 1 -> findOne(at);
+            case 2 -> writeOne(at);
+            case 3 -> cutOne(at);
+            case 4 -> moveOne(at);
+            case 5 -> removeOne(at);
+            case 6 -> commitAll(at);
+            case 7 -> dropAll(at);
+            default -> readOne(at);
         }
         if (model.commitsFirst > first) {
             SEEN.merge("commit first", 1, Integer::sum);
         }
     }
 
+    private void findOne(String at) {
+        int d = directory();
+        int n = name();
+        due(at + "find(" + d + ", " + n + ")", "find", x.find(d, n), model.find(d, n));
+    }
+
+    private void removeOne(String at) {
+        int d = directory();
+        int n = name();
+        done.add(t -> t.remove(d, n));
+        due(at + "remove(" + d + ", " + n + ")", "remove", x.remove(d, n), model.remove(d, n));
+    }
+
+    private void commitAll(String at) {
+        done.add(Tree::commit);
+        CHECK.due(at + "commit()", x.commit(), model.commit());
+    }
+
+    private void dropAll(String at) {
+        done.add(Tree::drop);
+        CHECK.due(at + "drop()", x.drop(), model.drop());
+    }
+
     private void makeOne(String at) {
         int d = directory();
         int n = name();
         boolean as = random.nextInt(3) == 0;
+        done.add(t -> t.make(d, n, as));
         due(at + "make(" + d + ", " + n + ", " + as + ")", "make", x.make(d, n, as), model.make(d, n, as));
     }
 
     private void writeOne(String at) {
-        int feeds = random.nextInt(4) == 0 ? random.nextInt(65) : random.nextInt(4);
+        int choice = random.nextInt(20);
+        int feeds = choice == 0 ? 64 : choice < 3 ? random.nextInt(65) : random.nextInt(4);
         for (int i = 0; i < feeds && model.tape.size() <= 504; i++) {
-            int n = 1 + random.nextInt(8);
+            int n = feeds == 64 ? 8 : 1 + random.nextInt(8);
             long v = random.nextLong();
             for (int k = 0; k < n; k++) {
                 model.tape.add((int) (v >> 8 * k) & 255);
             }
+            done.add(t -> t.feed(n, v));
             CHECK.due(at + "feed(" + n + ", " + v + ")", x.feed(n, v), model.tape.size());
         }
         int f = file();
         int size = model.node(f).bytes.size();
         int offset = random.nextInt(3) == 0 ? size : random.nextInt(size + 2) - random.nextInt(2);
+        done.add(t -> t.write(f, offset));
         due(at + "write(" + f + ", " + offset + ")", "write", x.write(f, offset), model.write(f, offset));
     }
 
     private void cutOne(String at) {
         int f = file();
         int size = model.node(f).bytes.size();
-        int to = random.nextInt(4) == 0 ? size / 64 * 64 + 64
+        int to = random.nextInt(2) == 0 ? size / 64 * 64 + 64
             : random.nextInt(3) == 0 ? random.nextInt(size + 1) - random.nextInt(2)
             : size + random.nextInt(1028);
         boolean blocksThere = model.freeBlocks() >= (to - size) / 64 + 1;
         int want = model.cut(f, to);
+        done.add(t -> t.cut(f, to));
         due(at + "cut(" + f + ", " + to + ")", "cut", x.cut(f, to), want);
         if (want == -4 && blocksThere) {
             SEEN.merge("ninth extent", 1, Integer::sum);
         }
+    }
+
+    private void moveOne(String at) {
+        int d = directory();
+        int n = name();
+        int e = directory();
+        int m = name();
+        String told = at + "move(" + d + ", " + n + ", " + e + ", " + m + ")";
+        done.add(t -> t.move(d, n, e, m));
+        due(told, "move", x.move(d, n, e, m), model.move(d, n, e, m));
     }
 
     private void readOne(String at) {
@@ -174,44 +218,65 @@ public final class ModelTest {
         }
     }
 
-    private void compareLooks(String at) {
-        List<Integer> changed = model.changed();
-        int[] due = {
-            model.limit, model.freeBlocks(), model.ofKind(0), changed.size(), model.commitsFirst, model.tape.size(),
-            model.ofKind(2),
+    private int[] looks() {
+        return new int[] {
+            model.limit, model.freeBlocks(), model.ofKind(0), model.changed().size(), model.commitsFirst,
+            model.tape.size(), model.ofKind(2),
         };
+    }
+
+    /** Looks between the calls of the run itself must not disturb it; one is enough, as they use up its calls. */
+    private void compareLook(String at) {
+        int what = random.nextInt(7);
+        if (random.nextBoolean() && x.callsLeft() > 0) {
+            CHECK.due(at + "look(" + what + ")", x.look(what), looks()[what]);
+        }
+    }
+
+    private void compare(String at, int someBlocks) {
+        Replay seen = new Replay(blocks, t -> done.forEach(call -> call.accept(t)));
+        int[] due = looks();
         for (int what = 0; what < due.length; what++) {
-            CHECK.due(at + "look(" + what + ")", x.look(what), due[what]);
+            CHECK.due(at + "look(" + what + ")", seen.look(what), due[what]);
         }
-        if (x.look(3) == changed.size()) {
+        List<Integer> changed = model.changed();
+        if (CHECK.wrong() == 0) {
             for (int i = 0; i < changed.size(); i++) {
-                CHECK.due(at + "changed(" + i + ")", x.changed(i), changed.get(i));
+                CHECK.due(at + "changed(" + i + ")", seen.changed(i), changed.get(i));
             }
         }
-        CHECK.dueThrow(at + "changed behind the last", NoSuchElementException.class, () -> x.changed(changed.size()));
+        CHECK.dueThrow(at + "changed behind the last", NoSuchElementException.class,
+            () -> seen.changed(changed.size()));
+        compareNodes(at, seen);
+        compareBytes(at, seen, someBlocks);
     }
 
-    private void compareBytes(String at) {
-        int[][] now = model.now();
-        int[][] committed = model.committed();
-        for (int b = 0; b < model.limit; b++) {
-            for (int k = 0; k < 64; k++) {
-                CHECK.due(at + "at(" + b + ", " + k + ", false)", x.at(b, k, false), now[b][k]);
-                CHECK.due(at + "at(" + b + ", " + k + ", true)", x.at(b, k, true), committed[b][k]);
-            }
-        }
-    }
-
-    private void compareNodes(String at) {
+    private void compareNodes(String at, Replay seen) {
         for (int i = 0; i < 64; i++) {
             Model.Node n = model.node(i);
             List<int[]> extents = n.extents();
-            CHECK.due(at + "kind of " + i, x.node(i, 0), n.kind);
-            CHECK.due(at + "size of " + i, x.node(i, 1), n.bytes.size());
-            CHECK.due(at + "extents of " + i, x.node(i, 2), extents.size());
-            for (int e = 0; e < Math.min(extents.size(), x.node(i, 2)); e++) {
-                CHECK.due(at + "extent " + e + " of " + i, x.node(i, 3 + 2 * e), extents.get(e)[0]);
-                CHECK.due(at + "its length", x.node(i, 4 + 2 * e), extents.get(e)[1]);
+            CHECK.due(at + "kind of " + i, seen.node(i, 0), n.kind);
+            CHECK.due(at + "size of " + i, seen.node(i, 1), n.bytes.size());
+            CHECK.due(at + "extents of " + i, seen.node(i, 2), extents.size());
+            for (int e = 0; e < extents.size() && CHECK.wrong() == 0; e++) {
+                CHECK.due(at + "extent " + e + " of " + i, seen.node(i, 3 + 2 * e), extents.get(e)[0]);
+                CHECK.due(at + "its length", seen.node(i, 4 + 2 * e), extents.get(e)[1]);
+            }
+        }
+    }
+
+    /** All blocks if so many are asked for; otherwise changed ones and any others, by turns. */
+    private void compareBytes(String at, Replay seen, int someBlocks) {
+        int[][] now = model.now();
+        int[][] committed = model.committed();
+        List<Integer> changed = model.changed();
+        for (int n = 0; n < someBlocks; n++) {
+            int b = someBlocks == model.limit ? n
+                : n % 2 == 0 && !changed.isEmpty() ? changed.get(random.nextInt(changed.size()))
+                : 25 + random.nextInt(model.limit - 25);
+            for (int k = 0; k < 64; k++) {
+                CHECK.due(at + "at(" + b + ", " + k + ", false)", seen.at(b, k, false), now[b][k]);
+                CHECK.due(at + "at(" + b + ", " + k + ", true)", seen.at(b, k, true), committed[b][k]);
             }
         }
     }

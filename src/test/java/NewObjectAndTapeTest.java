@@ -17,7 +17,7 @@ public final class NewObjectAndTapeTest {
             {0, 96}, {-1, 96}, {-768, 96}, {Integer.MAX_VALUE, 96}, {Integer.MIN_VALUE, 96},
         };
         for (int[] pair : wantedAndDue) {
-            TreeFiles x = new TreeFiles(pair[0]);
+            Tree x = new Tree(pair[0]);
             String made = "of " + pair[0] + " blocks ";
             int[] due = {pair[1], pair[1] - 59, 63, 0, 0, 0, 1};
             for (int what = 0; what < due.length; what++) {
@@ -30,7 +30,7 @@ public final class NewObjectAndTapeTest {
 
     private static void promise1Bytes() {
         for (int blocks : new int[] {96, 768}) {
-            TreeFiles x = new TreeFiles(blocks);
+            Replay x = new Replay(blocks, made -> { });
             for (int place = 0; place < 64 * blocks; place++) {
                 int due = place == 25 * 64 ? 2
                     : place >= 57 * 64 && place < 57 * 64 + 7 ? 255
@@ -38,16 +38,17 @@ public final class NewObjectAndTapeTest {
                 CHECK.due("new: byte " + place, x.at(place / 64, place % 64, false), due);
                 CHECK.due("new: committed byte " + place, x.at(place / 64, place % 64, true), due);
             }
-            CHECK.due("new: the root's kind", x.node(0, 0), 2);
-            CHECK.due("new: the root's size", x.node(0, 1), 0);
-            CHECK.due("new: the root's extents", x.node(0, 2), 0);
-            CHECK.due("new: drop()", x.drop(), 0);
-            CHECK.due("new: the root's kind after drop()", x.node(0, 0), 2);
+            Tree y = new Tree(blocks);
+            CHECK.due("new: the root's kind", y.node(0, 0), 2);
+            CHECK.due("new: the root's size", y.node(0, 1), 0);
+            CHECK.due("new: the root's extents", y.node(0, 2), 0);
+            CHECK.due("new: drop()", y.drop(), 0);
+            CHECK.due("new: the root's kind after drop()", y.node(0, 0), 2);
         }
     }
 
     private static void promise2Bytes() {
-        TreeFiles x = new TreeFiles(96);
+        Tree x = new Tree(96);
         x.make(0, 1, false);
         int length = 0;
         for (int n = 1; n <= 8; n++) {
@@ -63,7 +64,7 @@ public final class NewObjectAndTapeTest {
     }
 
     private static void promise2Full() {
-        TreeFiles x = new TreeFiles(96);
+        Tree x = new Tree(96);
         for (int i = 1; i <= 63; i++) {
             CHECK.due("feed " + i, x.feed(8, i), 8 * i);
         }
@@ -80,7 +81,7 @@ public final class NewObjectAndTapeTest {
     }
 
     private static void promise2Wrong() {
-        TreeFiles x = new TreeFiles(96);
+        Tree x = new Tree(96);
         for (int n : new int[] {0, 9, -1, Integer.MAX_VALUE, Integer.MIN_VALUE}) {
             CHECK.dueThrow("feed(" + n + ", 1)", IllegalArgumentException.class, () -> x.feed(n, 1));
         }
