@@ -14,11 +14,13 @@ public final class BoundsOfChangesTest {
         rootAtFirst();
         justOneEntry();
         changedOnesAreTaken();
+        changedOnesOfTheMap();
         changedOnesDiffer();
         commitOfNothingAndOf24();
         dropOfNothingAndOf24();
         freeBlocksHaveWhatIsCommitted();
         allOrNothing();
+        refusedAgain();
         refusedChangesNothing();
         moreThan24();
         moreThan24ByMoreThanOne();
@@ -208,6 +210,25 @@ public final class BoundsOfChangesTest {
         CHECK.due("the root's", x.changed(2), 59);
     }
 
+    private static void changedOnesOfTheMap() {
+        CHECK.sentence("A block is CHANGED: the map's block 57 up to block 511, 58 from block 512 on");
+        for (int block = 510; block <= 513; block++) {
+            Tree x = new Tree(768);
+            int size = (block - 60) * 64;
+            int map = block < 512 ? 57 : 58;
+            Check.file(x, 1, size);
+            x.commit();
+            x.cut(1, size + 1);
+            CHECK.due("two are changed", x.look(3), 2);
+            CHECK.due("the map's for " + block, x.changed(1), map);
+            CHECK.due("drop", x.drop(), 2);
+            CHECK.due("its bit", x.at(map, block / 8 % 64, false) >> block % 8, 0);
+            x.cut(1, size + 1);
+            x.commit();
+            CHECK.due("its bit as committed", x.at(map, block / 8 % 64, true) >> block % 8, 1);
+        }
+    }
+
     private static void changedOnesDiffer() {
         CHECK.sentence("its bytes differ from the committed ones");
         Tree x = withChanged(0);
@@ -288,6 +309,18 @@ public final class BoundsOfChangesTest {
         x.cut(1, 0);
         x.drop();
         CHECK.due("drop takes it again", x.node(1, 4), 2);
+        Tree y = new Tree(96);
+        y.make(0, 1, false);
+        Check.feed(y, 64, 1);
+        y.write(1, 0);
+        y.commit();
+        Check.feed(y, 64, 101);
+        y.write(1, 0);
+        CHECK.due("remove", y.remove(0, 1), 0);
+        for (int k = 0; k < 64; k++) {
+            CHECK.due("byte " + k + " of all", y.at(60, k, false), k + 1);
+            CHECK.due("byte " + k + " of all, as committed", y.at(60, k, true), k + 1);
+        }
     }
 
     /** File 1 with all blocks but one; file 2 of 60 bytes in the last one; directory 3 without a block. */
@@ -330,6 +363,38 @@ public final class BoundsOfChangesTest {
                 Check.feed(x, 66, 1);
                 CHECK.due("write", x.write(1, 447), -4);
             });
+    }
+
+    private static void refusedAgain() {
+        CHECK.sentence("OPERATIONS change all or nothing: refused, then others, then refused again");
+        Consumer<Tree> refused = x -> {
+            Check.feed(x, 119, 50);
+            CHECK.due("write", x.write(2, 10), -4);
+            CHECK.due("move", x.move(0, 1, 3, 1), -4);
+        };
+        Consumer<Tree> full = x -> {
+            fullDisk(x);
+            x.cut(2, 128);
+            x.commit();
+            x.feed(8, -1);
+            x.write(1, 64);
+            x.move(0, 2, 0, 7);
+        };
+        CHECK.changesNothing("refused after drop", 96, full.andThen(refused).andThen(Tree::drop), refused);
+        CHECK.changesNothing("refused after commit", 96, full.andThen(refused).andThen(Tree::commit), refused);
+        Tree x = new Tree(96);
+        changedBlocks(24).accept(x);
+        CHECK.due("cut", x.cut(1, 28 * 64 + 513), -4);
+        CHECK.due("drop", x.drop(), 24);
+        for (int i = 0; i < 24; i++) {
+            x.feed(1, 50 + i);
+            x.write(1, 64 * i);
+        }
+        CHECK.due("cut that commits first", x.cut(1, 28 * 64 + 512), 28 * 64 + 512);
+        CHECK.due("the inode's and the map's are changed", x.look(4) * 100 + x.look(3), 102);
+        CHECK.due("drop it", x.drop(), 2);
+        CHECK.due("its size", x.node(1, 1), 28 * 64);
+        CHECK.due("what was before it", x.read(1, 23 * 64), 73);
     }
 
     /** File 1 with seven extents; of the free blocks the least one, 74, has a taken one behind it. */

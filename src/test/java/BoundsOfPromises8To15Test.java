@@ -26,6 +26,7 @@ public final class BoundsOfPromises8To15Test {
         promise8Throws();
         promise9Removes();
         promise9NotEmpty();
+        notEmptyByAnyName();
         promise9FirstThatHolds();
         promise9SizeStays();
         promise9Throws();
@@ -109,6 +110,11 @@ public final class BoundsOfPromises8To15Test {
         CHECK.due("the same name in another directory", x.move(0, 3, 4, 3), 0);
         CHECK.due("is not the same one", x.find(4, 3), 3);
         CHECK.due("it is gone", x.find(0, 3), -1);
+        CHECK.due("a file of the same name elsewhere", x.make(5, 1, false), 8);
+        CHECK.due("is not the same one", x.move(0, 1, 5, 1), 0);
+        CHECK.due("it is the moved one", x.find(5, 1), 1);
+        CHECK.due("the moved one is there alone", x.find(0, 1), -1);
+        CHECK.due("the other one is free", x.node(8, 0), 0);
     }
 
     private static void promise8JustOneIsADirectory() {
@@ -333,6 +339,21 @@ public final class BoundsOfPromises8To15Test {
         y.move(1, 17, 0, 17);
         CHECK.due("with none, of size 128", y.remove(0, 1), 0);
         CHECK.due("both blocks are free", y.look(1), 36);
+    }
+
+    /** An entry is empty if its name is 0, not if one byte of the name is. */
+    private static void notEmptyByAnyName() {
+        CHECK.sentence("8, 9: -6, whatever name the one entry has");
+        for (int name : new int[] {1, 255, 256, 257, 512, 65280, 65535}) {
+            Tree x = new Tree(96);
+            x.make(0, 1, true);
+            x.make(0, 2, true);
+            x.make(1, name, false);
+            CHECK.due("remove, with " + name, x.remove(0, 1), -6);
+            CHECK.due("move onto it, with " + name, x.move(0, 2, 0, 1), -6);
+            CHECK.due("a new entry beside " + name, x.make(1, 9, false), 4);
+            CHECK.due("it stays", x.find(1, name), 3);
+        }
     }
 
     private static void promise9FirstThatHolds() {
