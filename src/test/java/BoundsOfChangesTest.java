@@ -30,6 +30,7 @@ public final class BoundsOfChangesTest {
         firstExceptionIsThrown();
         throwingChangesNothing();
         throwingLeavesTheTape();
+        memoryIsItsOwn();
         CHECK.end();
     }
 
@@ -614,5 +615,22 @@ public final class BoundsOfChangesTest {
             CHECK.due("byte " + offset, x.read(1, offset) & 255, (1 + offset) % 256);
         }
         CHECK.due("the last two", x.read(1, 504), 0x07f9);
+    }
+
+    private static void memoryIsItsOwn() {
+        CHECK.sentence("All memory is the class's own");
+        CHECK.changesNothing("calls of another object", 96, changedBlocks(24).andThen(x -> x.feed(5, 5)), x -> {
+            Tree other = new Tree(96);
+            CHECK.due("look(3) of another object", other.look(3), 0);
+            CHECK.due("look(5) of another object", other.look(5), 0);
+            CHECK.due("make", other.make(0, 9, true), 1);
+            CHECK.due("make", other.make(1, 9, false), 2);
+            Check.feedFull(other, 100);
+            CHECK.due("write", other.write(2, 0), 100);
+            CHECK.due("commit", other.commit(), 7);
+            CHECK.due("move", other.move(1, 9, 0, 1), 0);
+            CHECK.due("drop", other.drop(), 2);
+            CHECK.due("find", other.find(1, 9), 2);
+        });
     }
 }

@@ -8,11 +8,16 @@ import java.util.TreeSet;
 
 /** The class has the document's face and nothing else that can be seen. */
 public final class FaceTest {
+    private static final String ARGUMENT = " IllegalArgumentException";
+    private static final String STATE = " IllegalStateException";
+    private static final String NO_ELEMENT = " NoSuchElementException";
+    /** Each method with the exceptions that it names. */
     private static final Set<String> FACE = new TreeSet<>(Arrays.asList(
-        "int feed(int, long)", "int make(int, int, boolean)", "int find(int, int)", "int write(int, int)",
-        "int cut(int, int)", "long read(int, int)", "int move(int, int, int, int)", "int remove(int, int)",
-        "int commit()", "int drop()", "int node(int, int)", "int at(int, int, boolean)", "int changed(int)",
-        "int look(int)"));
+        "int feed(int, long)" + ARGUMENT + STATE, "int make(int, int, boolean)" + ARGUMENT,
+        "int find(int, int)" + ARGUMENT, "int write(int, int)" + ARGUMENT, "int cut(int, int)" + ARGUMENT,
+        "long read(int, int)" + ARGUMENT + NO_ELEMENT, "int move(int, int, int, int)" + ARGUMENT,
+        "int remove(int, int)" + ARGUMENT, "int commit()", "int drop()", "int node(int, int)" + ARGUMENT + NO_ELEMENT,
+        "int at(int, int, boolean)" + ARGUMENT, "int changed(int)" + NO_ELEMENT, "int look(int)" + NO_ELEMENT));
 
     public static void main(String[] args) {
         Check check = new Check();
@@ -38,6 +43,7 @@ public final class FaceTest {
         }
         Constructor<?>[] constructors = TreeFiles.class.getDeclaredConstructors();
         check.due("constructors", constructors.length, 1);
+        check.due("the constructor is public", Modifier.isPublic(constructors[0].getModifiers()) ? 1 : 0, 1);
         if (!Arrays.equals(constructors[0].getParameterTypes(), new Class<?>[] {int.class})) {
             check.tell("the constructor is " + constructors[0]);
         }
@@ -52,6 +58,10 @@ public final class FaceTest {
         for (Class<?> type : m.getParameterTypes()) {
             text.append(text.charAt(text.length() - 1) == '(' ? "" : ", ").append(type);
         }
-        return text.append(')').toString();
+        text.append(')');
+        for (Class<?> exception : m.getExceptionTypes()) {
+            text.append(' ').append(exception.getSimpleName());
+        }
+        return text.toString();
     }
 }
